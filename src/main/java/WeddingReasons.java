@@ -34,6 +34,7 @@ public final class WeddingReasons {
     private final Draws draws = new Draws();
     private final Matching matching = new Matching();
     private final Round round = new Round();
+    private final Cover cover = new Cover();
     private final Sayings sayings = new Sayings();
     private final Book book = new Book();
 
@@ -80,7 +81,7 @@ public final class WeddingReasons {
             case 9: return now.boxed();
             case 10: return Tried.plain(now);
             case 11: return Tried.firmest(now);
-            case 12: return Tried.few(now);
+            case 12: return cover.few(now);
             case 13: return sayings.count;
             case 14: return book.count;
             case 15: return past.count;
@@ -562,18 +563,19 @@ public final class WeddingReasons {
             return strengthBy(kind(o), grown, w);
         }
 
-        boolean objectsIn(int o, int c, int years) {
-            return strengthIn(o, c, years) >= least();
+        boolean objects(int o, int c) {
+            return strengthIn(o, c, 0) >= least();
         }
 
         /** Whether they would be wed some years on; who stood up this year counts too. */
         boolean wedIn(int o, int c, int years) {
+            int strength = strengthIn(o, c, years);
             int answer = Math.min(MOST_ANSWER, answer(c) + years);
-            return waits(c) && objectsIn(o, c, years) && answer >= strengthIn(o, c, years);
+            return waits(c) && strength >= least() && answer >= strength;
         }
 
         boolean mayStand(int o, int c) {
-            return waits(c) && !hasStood(o) && objectsIn(o, c, 0);
+            return waits(c) && !hasStood(o) && objects(o, c);
         }
 
         void standUp(int o, int c) {
@@ -784,30 +786,10 @@ public final class WeddingReasons {
             return NONE;
         }
 
-        static int few(Parish p) {
-            int best = NONE;
-            for (int set = 0; set < 1 << p.objectors(); set++) {
-                boolean fewer = best == NONE || Integer.bitCount(set) < Integer.bitCount(best);
-                if (fewer && weddable(p, set)) {
-                    best = set;
-                }
-            }
-            return best;
-        }
-
-        private static boolean weddable(Parish p, int objectors) {
-            for (int c = 0; c < p.couples(); c++) {
-                if (p.waits(c) && (can(p, c) & objectors) == 0) {
-                    return false;
-                }
-            }
-            return true;
-        }
-
         static int safeAnswer(Parish p, int c, int objectors) {
             int answer = 0;
             for (int o = 0; o < p.objectors(); o++) {
-                if ((objectors >> o & 1) == 1 && p.objectsIn(o, c, 0)) {
+                if ((objectors >> o & 1) == 1 && p.objects(o, c)) {
                     answer = Math.max(answer, p.strengthIn(o, c, 0));
                 }
             }
@@ -844,6 +826,34 @@ public final class WeddingReasons {
                 }
             }
             return best;
+        }
+    }
+
+    /** The fewest objectors by whom all who wait could be wed. */
+    private static final class Cover {
+        private final int[] cans = new int[MOST_COUPLES];
+
+        int few(Parish p) {
+            for (int c = 0; c < p.couples(); c++) {
+                cans[c] = Tried.can(p, c);
+            }
+            int best = NONE;
+            for (int set = 0; set < 1 << p.objectors(); set++) {
+                boolean fewer = best == NONE || Integer.bitCount(set) < Integer.bitCount(best);
+                if (fewer && weddable(p, set)) {
+                    best = set;
+                }
+            }
+            return best;
+        }
+
+        private boolean weddable(Parish p, int objectors) {
+            for (int c = 0; c < p.couples(); c++) {
+                if (p.waits(c) && (cans[c] & objectors) == 0) {
+                    return false;
+                }
+            }
+            return true;
         }
     }
 
@@ -929,7 +939,7 @@ public final class WeddingReasons {
         private final int[] best = new int[1 << MOST_COUPLES];
 
         void weigh(Parish p, int o, int set) {
-            best[0] = 0;
+            // The empty set's best is never written, and stays 0.
             for (int left = 1; left <= set; left++) {
                 if ((left & ~set) == 0) {
                     best[left] = bestOf(p, o, set, left);

@@ -11,6 +11,7 @@ public final class DeaneryTest {
         faultChangesNothingElse();
         told();
         couple();
+        weakest();
         objector();
         box();
         against();
@@ -34,6 +35,7 @@ public final class DeaneryTest {
         CHECK.due("new: soonest(0, 0)", x.soonest(0, 0), Check.UNKNOWN);
         CHECK.due("new: match(0)", x.match(0), Check.UNKNOWN);
         CHECK.due("new: seed(7)", x.seed(7), 0);
+        CHECK.due("new: goBack(0)", x.goBack(0), Check.NOT);
         CHECK.due("new: keep(0)", x.keep(0), 1);
         CHECK.due("new: goBack(1)", x.goBack(1), Check.NOT);
         CHECK.due("new: goBack(0)", x.goBack(0), 1);
@@ -250,6 +252,10 @@ public final class DeaneryTest {
         x.stand(0, 0);
         CHECK.due("told(11), a weaker one", x.told(11), 1);
         CHECK.due("told(12), none waits", x.told(12), 0);
+        WeddingReasons y = Check.of("d1;c9 0,0,0,0,0;c9 0,0,0,0,0;o3 5 0;o3 2 0;");
+        y.stand(0, 0);
+        y.stand(1, 1);
+        CHECK.due("told(11), the first couple", y.told(11), 0);
     }
 
     private static void few() {
@@ -304,6 +310,17 @@ public final class DeaneryTest {
         x.stand(0, 2);
         CHECK.due("couple(2, 6), home", x.couple(2, 6), 2);
         CHECK.due("couple(2, 7), home", x.couple(2, 7), Check.NONE);
+    }
+
+    private static void weakest() {
+        WeddingReasons x = Check.of("d9;c9 3,0,0,0,0;o3 4 0;o3 4 0;o0 1 1;o3 5 0;");
+        CHECK.due("couple(0, 9), of like ones the least", x.couple(0, 9), 0);
+        x.sour(0, 5);
+        CHECK.due("couple(0, 9), an uncle who will be 5", x.couple(0, 9), 1);
+        x.sour(1, 5);
+        CHECK.due("couple(0, 9), an uncle who will be 5", x.couple(0, 9), 2);
+        x.sour(3, 3);
+        CHECK.due("couple(0, 9), the last", x.couple(0, 9), 3);
     }
 
     private static void objector() {

@@ -41,6 +41,10 @@ public final class DoneTest {
         CHECK.due("couple(2, 7)", x.couple(2, 7), 5);
         x.year(1);
         CHECK.due("stand(0, 3) a year on", x.stand(0, 3), 1);
+        WeddingReasons y = Check.of("d5;c10 0,0,0,0,0;o0 4 0;");
+        CHECK.due("stand(0, 0), an uncle of 4", y.stand(0, 0), Check.NOT);
+        y.year(1);
+        CHECK.due("stand(0, 0), an uncle of 5", y.stand(0, 0), 1);
     }
 
     /** Six is the most the box can come to: no couple waits again, but by what puts the box back too. */
