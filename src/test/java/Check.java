@@ -39,23 +39,25 @@ final class Check {
         return x;
     }
 
-    /** All that can be seen of section 2, of the text, of what is said and written. */
+    /** All that can be seen of section 2, of the text, of what is said and written; the box has six at most. */
     static String seen(WeddingReasons x) {
         StringBuilder b = new StringBuilder();
         for (int what = 0; what <= 15; what++) {
             b.append(x.told(what)).append(' ');
         }
-        for (int c = 0; c < x.told(1); c++) {
+        int couples = x.told(1);
+        int objectors = x.told(2);
+        for (int c = 0; c < couples; c++) {
             for (int what = 0; what <= 9; what++) {
                 b.append(x.couple(c, what)).append(' ');
             }
         }
-        for (int o = 0; o < x.told(2); o++) {
+        for (int o = 0; o < objectors; o++) {
             for (int what = 0; what <= 3; what++) {
                 b.append(x.objector(o, what)).append(' ');
             }
         }
-        for (int i = 0; i <= 20; i++) {
+        for (int i = 0; i <= 6; i++) {
             for (int what = 0; what <= 4; what++) {
                 b.append(x.box(i, what)).append(' ');
             }

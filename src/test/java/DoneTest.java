@@ -180,45 +180,55 @@ public final class DoneTest {
         CHECK.due("told(15)", x.told(15), 8);
     }
 
-    /** The draws worked by hand from the seed 5; the words of the document, one by one. */
     private static void drift() {
-        long[] seed = {5};
-        WeddingReasons x = Check.of(Check.PLACE);
-        WeddingReasons y = Check.of(Check.PLACE);
-        CHECK.due("drift(0)", x.drift(0), Check.OUTSIDE);
-        CHECK.due("drift(61)", x.drift(61), Check.OUTSIDE);
+        CHECK.due("drift(0)", Check.of(Check.PLACE).drift(0), Check.OUTSIDE);
+        CHECK.due("drift(61)", Check.of(Check.PLACE).drift(61), Check.OUTSIDE);
         CHECK.due("drift(61) without a deanery", new WeddingReasons().drift(61), Check.OUTSIDE);
         CHECK.due("drift(1) without a deanery", new WeddingReasons().drift(1), Check.NOT);
+        for (int most = 1; most <= 15; most++) {
+            driftByHand(most);
+        }
+    }
+
+    /** The draws worked by hand from the seed 5; the words of the document, one by one. */
+    private static void driftByHand(int most) {
+        long[] seed = {5};
+        int[] deeds = new int[4];
+        WeddingReasons x = Check.of(Check.PLACE);
+        WeddingReasons y = Check.of(Check.PLACE);
         x.seed(5);
         int years = 0;
-        int[] deeds = new int[4];
-        for (int n = 1; n <= 20; n++) {
+        for (int n = 1; n <= most; n++) {
             years += n;
             CHECK.due("drift(" + n + ")", x.drift(n), years);
             for (int i = 0; i < n; i++) {
-                int deed = draw(seed, 4);
-                int c = draw(seed, 4);
-                int o = draw(seed, 5);
-                deeds[deed]++;
-                if (deed == 0) {
-                    y.stand(o, c);
-                } else if (deed == 1) {
-                    int reason = draw(seed, 5);
-                    y.hear(c, reason, draw(seed, 21));
-                } else if (deed == 2) {
-                    y.teach(o, draw(seed, 5), true);
-                }
-                y.year(1);
+                deeds[oneByHand(y, seed)]++;
             }
-            String got = Check.seen(x).replaceFirst("^((\\S+ ){15})\\S+", "$1*");
-            String want = Check.seen(y).replaceFirst("^((\\S+ ){15})\\S+", "$1*");
-            CHECK.same("behind " + years + " years", got, want);
         }
+        String got = Check.seen(x).replaceFirst("^((\\S+ ){15})\\S+", "$1*");
+        String want = Check.seen(y).replaceFirst("^((\\S+ ){15})\\S+", "$1*");
+        CHECK.same("behind " + years + " years", got, want);
         CHECK.due("the seed", x.seed(0), (int) seed[0]);
-        CHECK.due("told(15)", x.told(15), 16);
-        for (int deed = 0; deed < 4; deed++) {
+        CHECK.due("told(15)", x.told(15), most);
+        for (int deed = 0; deed < 4 && most == 15; deed++) {
             CHECK.due("deed " + deed + " came", deeds[deed] > 10 ? 1 : 0, 1);
         }
+    }
+
+    private static int oneByHand(WeddingReasons y, long[] seed) {
+        int deed = draw(seed, 4);
+        int c = draw(seed, 4);
+        int o = draw(seed, 5);
+        if (deed == 0) {
+            y.stand(o, c);
+        } else if (deed == 1) {
+            int reason = draw(seed, 5);
+            y.hear(c, reason, draw(seed, 21));
+        } else if (deed == 2) {
+            y.teach(o, draw(seed, 5), true);
+        }
+        y.year(1);
+        return deed;
     }
 
     private static int draw(long[] seed, int n) {

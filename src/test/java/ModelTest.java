@@ -3,7 +3,7 @@ import java.util.Random;
 /** Long runs of calls by chance (always the same ones), the class held against the slow model. */
 public final class ModelTest {
     private static final int RUNS = 1500;
-    private static final int CALLS = 512;
+    private static final int CALLS = 510;
     private static final int[] WILD = {-1, -2, -3, -1000000001, Integer.MIN_VALUE, Integer.MAX_VALUE, 7, 64, 100, 256, 1 << 30};
 
     private final Random random;
@@ -28,7 +28,7 @@ public final class ModelTest {
     private String run() {
         StringBuilder log = new StringBuilder();
         while (calls < CALLS) {
-            if (calls == 0 || random.nextInt(150) == 0 && calls < 300) {
+            if (calls == 0 || random.nextInt(150) == 0 && calls < 265) {
                 feedText(log);
             }
             String wrong = call();
@@ -103,7 +103,7 @@ public final class ModelTest {
             x.feed(text.charAt(i));
             m.feed(text.charAt(i));
         }
-        calls += text.length() + 1;
+        calls += text.length() + 2;
         wrong += same("deanery()", x.deanery(), m.deanery());
         wrong += same("fault()", x.fault(), m.fault());
     }
@@ -185,6 +185,11 @@ public final class ModelTest {
         }
     }
 
+    private String weights(int what) {
+        calls++;
+        return same("weights(" + what + ")", x.weights(what), m.weights(what)) + same("weights(0)", x.weights(0), m.weights(0));
+    }
+
     private String speak(int dice) {
         int kind = about(2);
         int skill = about(below(2) == 0 ? 4 : 40);
@@ -195,7 +200,7 @@ public final class ModelTest {
         int seed = random.nextInt() >>> (below(10) == 0 ? 0 : 1);
         switch (dice) {
             case 26: return same("say(" + kind + ", " + skill + ", " + v + ")", x.say(kind, skill, v), m.say(kind, skill, v));
-            case 27: return same("weights(" + i + ")", x.weights(i + 1), m.weights(i + 1)) + same("weights(0)", x.weights(0), m.weights(0));
+            case 27: return weights(i + 1);
             case 28: return same("ask()", x.ask(), m.ask());
             case 29: return same("write(" + c + ", " + a + ")", x.write(c, a), m.write(c, a));
             case 30: return below(8) == 0 ? same("tear()", x.tear(), m.tear()) : "";

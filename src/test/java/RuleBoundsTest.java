@@ -83,31 +83,51 @@ public final class RuleBoundsTest {
         CHECK.due("box: NONE for strangers", x.box(0, 3), Check.NONE);
     }
 
-    /** "an objection is of STRENGTH M or more": for each LEAST, one less and just as much. */
+    /** "an objection is of STRENGTH M or more": for each LEAST and KIND, one less and just as much. */
     private static void leastOrMore() {
         for (int least = 1; least <= 20; least++) {
-            WeddingReasons x = of("d" + least + ";c60 0,0,0,0,0;c60 0,0,0,0,0;o3 " + (least - 1) + " 0;o3 " + least + " 0;");
-            String by = " by a least of " + least;
-            CHECK.due("PLAIN, one stands by" + by, x.told(10), 0);
-            CHECK.due("CAN" + by, x.couple(0, 8), 2);
-            CHECK.due("FEW" + by, x.told(12), 2);
-            CHECK.due("HOLDS, one less" + by, x.holds(0, 1), 0);
-            CHECK.due("HOLDS, as much" + by, x.holds(0, 3), least);
-            CHECK.due("SOONEST, one less" + by, x.soonest(0, 0), Check.NONE);
-            CHECK.due("SOONEST, as much" + by, x.soonest(0, 1), 0);
-            CHECK.due("ROUNDS, one less" + by, x.rounds(0, 3, 0), 0);
-            CHECK.due("ROUNDS, one less, the figures" + by, x.rounds(0, 3, 1), 12);
-            CHECK.due("ROUNDS, as much" + by, x.rounds(1, 3, 0), 2);
-            CHECK.due("MATCH" + by, x.match(-1), 1);
-            CHECK.due("MATCH for the first" + by, x.match(0), 1);
-            CHECK.due("WEAKEST counts who is less than least" + by, x.couple(0, 9), 0);
-            CHECK.due("stand, one less" + by, x.stand(0, 0), Check.NOT);
-            CHECK.due("stand, as much" + by, x.stand(1, 0), 1);
-            x.sour(1, least - 1);
-            CHECK.due("PLAIN, all are less" + by, x.told(10), 2);
-            x.sour(0, least);
-            CHECK.due("PLAIN, one is as much" + by, x.told(10), 0);
+            leastOrMoreBy(0, least - 1, least, least);
+            leastOrMoreBy(1, 2 * least - 1, 2 * least, least);
+            leastOrMoreBy(2, 2 * least - 1, 2 * least, least);
+            leastOrMoreBy(3, least - 1, least, least);
         }
+    }
+
+    private static void leastOrMoreBy(int kind, int less, int enough, int least) {
+        int w = kind == 2 ? 2 : 0;
+        String objector = "o" + kind + " 0 1;";
+        WeddingReasons x = of("d" + least + ";c60 " + w + ",0,0,0,0;c60 " + w + ",0,0,0,0;" + objector + objector);
+        x.sour(0, less);
+        x.sour(1, enough);
+        String by = " by a least of " + least + " and kind " + kind;
+        boolean uncle = kind == 0;
+        CHECK.due("one less" + by, x.against(0, 0, 0), least - 1);
+        CHECK.due("as much" + by, x.against(1, 0, 0), least);
+        CHECK.due("PLAIN, one stands by" + by, x.told(10), 0);
+        CHECK.due("CAN" + by, x.couple(0, 8), 2);
+        CHECK.due("FEW" + by, x.told(12), 2);
+        CHECK.due("HOLDS, one less" + by, x.holds(0, 1), 0);
+        CHECK.due("HOLDS, as much" + by, x.holds(0, 3), least);
+        CHECK.due("SOONEST, one less" + by, x.soonest(0, 0), uncle ? 1 : Check.NONE);
+        CHECK.due("SOONEST, as much" + by, x.soonest(0, 1), 0);
+        CHECK.due("ROUNDS, one less" + by, x.rounds(0, 3, 0), uncle ? 1 : 0);
+        CHECK.due("ROUNDS, one less, the figures" + by, x.rounds(0, 3, 1), 12);
+        CHECK.due("ROUNDS, as much" + by, x.rounds(1, 3, 0), 2);
+        CHECK.due("MATCH" + by, x.match(-1), 1);
+        CHECK.due("MATCH together" + by, x.match(-2), least);
+        CHECK.due("MATCH for the first" + by, x.match(0), 1);
+        CHECK.due("WEAKEST counts who is less than least" + by, x.couple(0, 9), 0);
+        CHECK.due("stand, one less" + by, x.stand(0, 0), Check.NOT);
+        CHECK.due("stand, as much" + by, x.stand(1, 0), 1);
+        CHECK.due("the state of who is wed" + by, x.couple(0, 6), 1);
+        CHECK.due("how strong" + by, x.couple(0, 7), least);
+        x.sour(1, less);
+        CHECK.due("PLAIN, all are less" + by, x.told(10), 2);
+        x.sour(0, enough);
+        CHECK.due("PLAIN, one is as much" + by, x.told(10), 0);
+        x.sour(0, less);
+        x.sour(1, enough);
+        CHECK.due("PLAIN, the other is as much" + by, x.told(10), 0);
     }
 
     /** "if ANSWER is STRENGTH or more, they are WED (as STRONG as that), else they go HOME". */
@@ -128,6 +148,7 @@ public final class RuleBoundsTest {
                 CHECK.due("stand" + by, x.stand(0, 0), wed ? 1 : 0);
                 CHECK.due("WED" + by, x.told(6), wed ? 1 : 0);
                 CHECK.due("HOME" + by, x.told(7), wed ? 0 : 1);
+                CHECK.due("their state" + by, x.couple(0, 6), wed ? 1 : 2);
                 CHECK.due("STRONG" + by, x.couple(0, 7), wed ? strength : Check.NONE);
                 CHECK.due("FIRMEST" + by, x.told(11), wed ? 0 : Check.NONE);
                 CHECK.due("box" + by, x.box(0, 4), strength);

@@ -9,6 +9,7 @@ public final class TriedBoundsTest {
         canOfThoseWhoWait();
         soonestByYears();
         soonestNone();
+        unclesNow();
         matchOfNobodyAndOfAll();
         matchNoneLast();
         fewFromNoneToSix();
@@ -24,6 +25,7 @@ public final class TriedBoundsTest {
         bookOf15();
         wrongFirst();
         seedWraps();
+        drawsWithinBounds();
         drawsOfThoseWhoAre();
         undoneSixteen();
         undoneEachKind();
@@ -127,6 +129,24 @@ public final class TriedBoundsTest {
         CHECK.due("95 against 99", x.soonest(0, 0), 0);
     }
 
+    /** WEAKEST, HOLDS, MATCH now: an uncle is as sour as he is, not as he will be. */
+    private static void unclesNow() {
+        WeddingReasons x = Check.of("d1;c9 0,0,0,0,0;c9 0,0,0,0,0;o3 9 0;o0 8 0;o3 8 0;o0 9 0;");
+        CHECK.due("WEAKEST: an uncle of 8", x.couple(0, 9), 1);
+        CHECK.due("HOLDS: an uncle of 8", x.holds(0, 2), 8);
+        CHECK.due("CAN: an uncle of 9", x.couple(0, 8), 15);
+        CHECK.due("MATCH together: two of 9", x.match(-2), 18);
+        CHECK.due("MATCH: a stranger of 9", x.match(0), 0);
+        CHECK.due("MATCH: an uncle of 9", x.match(1), 3);
+        x.sour(1, 9);
+        CHECK.due("WEAKEST: a stranger of 8", x.couple(0, 9), 2);
+        x.sour(3, 10);
+        CHECK.due("CAN: an uncle of 10", x.couple(0, 8), 7);
+        CHECK.due("stand: an uncle of 9", x.stand(1, 0), 1);
+        CHECK.due("box: an uncle of 9", x.box(0, 4), 9);
+        CHECK.due("stand: an uncle of 10", x.stand(3, 1), 0);
+    }
+
     /** MATCH of nobody, of couples alone, of objectors alone, of all six. */
     private static void matchOfNobodyAndOfAll() {
         Situation[] none = {Situation.NEW, Situation.BARE, Situation.COUPLES_ALONE, Situation.OBJECTORS_ALONE};
@@ -157,10 +177,21 @@ public final class TriedBoundsTest {
         for (int c = 0; c < 3; c++) {
             CHECK.due("match(" + c + "), one objector", x.match(c), want[c]);
         }
+        x.practise(0, 4);
+        int[] middle = {Check.NONE, 0, Check.NONE};
+        for (int c = 0; c < 3; c++) {
+            CHECK.due("match(" + c + "), one objector, not for the first", x.match(c), middle[c]);
+        }
         WeddingReasons y = Situation.SIX.make();
         for (int c = 0; c < 6; c++) {
             CHECK.due("match(" + c + "), all alike", y.match(c), c);
         }
+        y.practise(2, 0);
+        int[] gap = {0, 1, Check.NONE, 2, 3, 4};
+        for (int c = 0; c < 6; c++) {
+            CHECK.due("match(" + c + "), none for one amid them", y.match(c), gap[c]);
+        }
+        CHECK.due("match(NONE), none for one amid them", y.match(-1), 5);
         WeddingReasons z = Check.of("d1;c9 0,0,0,0,0;c9 0,0,0,0,0;o3 2 0;o3 9 0;o3 9 0;");
         CHECK.due("match(0), the strongest, the lesser", z.match(0), 1);
         CHECK.due("match(1), the strongest", z.match(1), 2);
@@ -231,6 +262,8 @@ public final class TriedBoundsTest {
         CHECK.due("two of them, the next set", x.told(12), 2 + 4);
         x.teach(2, 2, false);
         CHECK.due("two of them, the next set", x.told(12), 2 + 32);
+        x.teach(5, 0, true);
+        CHECK.due("one does for all, and less than two of lesser numbers", x.told(12), 32);
     }
 
     /** ROUNDS "for a SET of COUPLES that wait (5 at most)": every SET of six. */
@@ -498,6 +531,43 @@ public final class TriedBoundsTest {
                 CHECK.due("the seed behind " + years + " years from " + seed, x.seed(0), seedBehind(seed, years));
             }
         }
+    }
+
+    /** "a DRAW of 5 REASONS, of 21 is HEARD of them (the REASON first)"; "TAUGHT a DRAW of 5 REASONS": every one comes, none beyond. */
+    private static void drawsWithinBounds() {
+        int reasonsHeard = 0;
+        int reasonsTaught = 0;
+        int weightsHeard = 0;
+        for (int seed = 0; seed < 4000; seed++) {
+            WeddingReasons x = Check.of("d20;c0 7,7,7,7,7;o3 0 0;");
+            x.seed(seed * 500009);
+            x.drift(1);
+            reasonsTaught |= x.objector(0, 2);
+            for (int r = 0; r < 5; r++) {
+                reasonsHeard |= x.couple(0, r) == 7 ? 0 : 1 << r;
+                weightsHeard |= 1 << x.couple(0, r);
+            }
+            int[] want = drawn(seed * 500009);
+            CHECK.due("TAUGHT from the seed " + seed, x.objector(0, 2), want[0] == 2 ? 1 << want[1] : 0);
+            for (int r = 0; r < 5; r++) {
+                CHECK.due("HEARD from the seed " + seed, x.couple(0, r), want[0] == 1 && want[1] == r ? want[2] : 7);
+            }
+        }
+        CHECK.due("all REASONS are TAUGHT", reasonsTaught, 31);
+        CHECK.due("all REASONS are HEARD", reasonsHeard, 31);
+        CHECK.due("all of 0 .. 20 is HEARD", weightsHeard, (1 << 21) - 1);
+    }
+
+    /** The deed; its first draw behind the couple and the objector; its second. */
+    private static int[] drawn(int seed) {
+        int[] of = {4, 1, 1, 5, 21};
+        int[] draws = new int[5];
+        BigInteger now = BigInteger.valueOf(seed);
+        for (int i = 0; i < 5; i++) {
+            now = next(now);
+            draws[i] = now.divide(BigInteger.valueOf(65536)).mod(BigInteger.valueOf(of[i])).intValueExact();
+        }
+        return new int[] {draws[0], draws[3], draws[4]};
     }
 
     private static int seedBehind(int seed, int years) {
